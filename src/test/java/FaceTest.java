@@ -1,0 +1,167 @@
+import java.io.IOException;
+import java.lang.reflect.Constructor;
+import java.lang.reflect.Field;
+import java.lang.reflect.Method;
+import java.lang.reflect.Modifier;
+import java.nio.file.Files;
+import java.nio.file.Path;
+import java.util.Set;
+import java.util.TreeSet;
+import java.util.regex.Matcher;
+import java.util.regex.Pattern;
+
+/** The public face, what LANGUAGE.md rules out and can be read off the source, and the room that calls take. */
+public final class FaceTest {
+    private static final String[] METHODS = {
+        "int say(int)", "int wipe()", "int fault(int)", "int line()", "int close(int,boolean)",
+        "int person(int,int,int,int,int,int)", "int leave(int)", "int nights(int,int)", "int set(int,int)",
+        "int judge(int)", "int riders()", "int good(int)", "int leaves(int)", "int vain()", "int best(int)",
+        "int worth()", "int meant(int,int,int)", "int bars(int,int)", "int fund(int,int,int)", "int rival(int)",
+        "int closing(int,int)", "int seen(int,int)", "int forget()", "int held(int,int)",
+        "long runs(int,int,int,int)", "long mean(int,int,int)", "int waits(int,int,int,int,int)",
+        "int year(int,int,int)", "int image(int)", "int restore(int)", "int told(int)"};
+    private static final String[] CONSTANTS = {
+        "int UNKNOWN=-1", "int OUTSIDE=-2", "int STATE=-3", "int FULL=-4", "int NO=-5", "int NONE=-6",
+        "long GONE=-1000000000000000000"};
+    private static final String[] RULED_OUT = {
+        "\\bthrow\\b", "\\btry\\b", "\\bcatch\\b", "\\bfinally\\b", "\\bsynchronized\\b", "\\bassert\\b", "->", "::",
+        "Exact\\b", "\\bimport\\b", "\\bpackage\\b", "\\bprotected\\b", "static\\s*\\{", "@Override", "\\bSystem\\.(?!arraycopy)"};
+
+    private static int wrong = 0;
+
+    private static void look(boolean right, String what) {
+        if (!right) {
+            wrong++;
+            System.out.println(what);
+        }
+    }
+
+    private static String parameters(Class<?>[] types) {
+        StringBuilder text = new StringBuilder();
+        for (Class<?> t : types) text.append(text.length() == 0 ? "" : ",").append(t.getName());
+        return text.toString();
+    }
+
+    private static void face() throws IllegalAccessException {
+        Set<String> shown = new TreeSet<>();
+        Set<String> names = new TreeSet<>();
+        for (Method m : TramGod.class.getDeclaredMethods()) {
+            if (Modifier.isPublic(m.getModifiers())) {
+                shown.add(m.getReturnType().getName() + " " + m.getName() + "(" + parameters(m.getParameterTypes()) + ")");
+                names.add(m.getName());
+            } else {
+                look(Modifier.isPrivate(m.getModifiers()), "not private: " + m);
+            }
+        }
+        look(shown.equals(new TreeSet<>(Set.of(METHODS))), "the public methods are " + shown);
+        Set<String> constants = new TreeSet<>();
+        for (Field f : TramGod.class.getDeclaredFields()) {
+            if (Modifier.isPublic(f.getModifiers())) {
+                look(Modifier.isStatic(f.getModifiers()) && Modifier.isFinal(f.getModifiers()), "no constant: " + f);
+                constants.add(f.getType().getName() + " " + f.getName() + "=" + f.get(null));
+            } else {
+                look(Modifier.isPrivate(f.getModifiers()), "not private: " + f);
+            }
+        }
+        look(constants.equals(new TreeSet<>(Set.of(CONSTANTS))), "the constants are " + constants);
+        Constructor<?>[] made = TramGod.class.getDeclaredConstructors();
+        look(made.length == 1 && Modifier.isPublic(made[0].getModifiers()) && made[0].getParameterCount() == 0, "the constructor");
+        look(Modifier.isFinal(TramGod.class.getModifiers()), "the class is not final");
+        inside(names);
+    }
+
+    private static void inside(Set<String> names) {
+        Class<?>[] classes = TramGod.class.getDeclaredClasses();
+        look(classes.length <= 12, "too many classes");
+        for (Class<?> c : classes) {
+            look(Modifier.isStatic(c.getModifiers()), "not static: " + c);
+            int fields = 0;
+            for (Field f : c.getDeclaredFields()) {
+                fields += Modifier.isStatic(f.getModifiers()) ? 0 : 1;
+                look(!Modifier.isStatic(f.getModifiers()) || Modifier.isFinal(f.getModifiers()), "static state: " + f);
+            }
+            look(fields <= 20, "too many fields: " + c);
+            for (Method m : c.getDeclaredMethods()) {
+                look(!names.contains(m.getName()), "bears a public one's name: " + m);
+                look(m.getParameterCount() <= 7, "too many parameters: " + m);
+            }
+        }
+    }
+
+    private static void source() throws IOException {
+        String text = Files.readString(Path.of("src/main/java/TramGod.java"));
+        String code = text.replaceAll("(?s)/\\*.*?\\*/", "").replaceAll("//[^\n]*", "");
+        for (String out : RULED_OUT) {
+            Matcher m = Pattern.compile(out).matcher(code);
+            look(!m.find(), "ruled out: " + out);
+        }
+        look(text.chars().allMatch(c -> c < 128), "a sign above 127");
+        int from = 0;
+        String[] lines = text.split("\n");
+        for (int i = 0; i < lines.length; i++) {
+            if (lines[i].matches(" {4,8}(public|private|static|boolean|int|long|void)?.*\\) \\{")) from = i;
+            if (lines[i].matches(" {4,8}\\}")) look(i - from <= 60, "a long method ends at line " + (i + 1));
+        }
+    }
+
+    /** After the constructor no call may make an object: all calls of a run share one room. */
+    private static void room() {
+        com.sun.management.ThreadMXBean bean =
+            (com.sun.management.ThreadMXBean) java.lang.management.ManagementFactory.getThreadMXBean();
+        TramGod x = new TramGod();
+        callAll(x);
+        long me = Thread.currentThread().getId();
+        long before = bean.getThreadAllocatedBytes(me);
+        for (int i = 0; i < 200; i++) callAll(x);
+        long bytes = bean.getThreadAllocatedBytes(me) - before;
+        look(bytes < 20000, "calls took " + bytes + " bytes");
+        before = bean.getThreadAllocatedBytes(me);
+        for (int i = 0; i < 100; i++) x = new TramGod();
+        bytes = (bean.getThreadAllocatedBytes(me) - before) / 100;
+        look(x != null && bytes < 16000, "a new object took " + bytes + " bytes");
+    }
+
+    private static void callAll(TramGod x) {
+        x.wipe();
+        for (int i = 0; i < 6; i++) x.say('4');
+        x.line();
+        for (int p = 0; p < 8; p++) x.person(p, p % 6, 4 * (p % 6) + p, p, 4 - p, p % 3);
+        x.set(0, 5);
+        for (int i = 0; i < 6; i++) x.say(i < 5 ? '1' : '0');
+        x.seen(0, 1);
+        x.nights(0, 3);
+        x.fault(0);
+        x.close(1, true);
+        x.judge(0);
+        x.riders();
+        x.good(0);
+        x.leaves(2);
+        x.vain();
+        x.best(0);
+        x.worth();
+        x.meant(1, 2, 0);
+        x.bars(1, 2);
+        x.fund(40, 7, 6);
+        x.rival(2);
+        x.closing(3, 1);
+        x.held(0, 1);
+        x.held(-1, 0);
+        x.runs(0, 1, 1, 1);
+        x.mean(1, 1, 1);
+        x.waits(0, 1, 1, 1, 2);
+        x.year(77, 99, 0);
+        x.image(0);
+        x.restore(0);
+        x.told(20);
+        x.leave(0);
+        x.forget();
+    }
+
+    public static void main(String[] args) throws IOException, IllegalAccessException {
+        face();
+        source();
+        room();
+        System.out.println(wrong == 0 ? "the face is as told" : wrong + " things are not as told");
+        if (wrong != 0) System.exit(1);
+    }
+}
