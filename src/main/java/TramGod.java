@@ -42,8 +42,8 @@ public final class TramGod {
 
     private final Pad pad;
     private final World world;
+    /** Null: none was kept. */
     private final World[] images;
-    private final boolean[] kept;
     private final Slack slack;
     private final Planner planner;
     private final Purse purse;
@@ -55,10 +55,6 @@ public final class TramGod {
         pad = new Pad();
         world = new World();
         images = new World[IMAGES];
-        for (int k = 0; k < IMAGES; k++) {
-            images[k] = new World();
-        }
-        kept = new boolean[IMAGES];
         slack = new Slack(world);
         planner = new Planner(world, slack);
         purse = new Purse(world, planner);
@@ -416,8 +412,12 @@ public final class TramGod {
         if (!within(k, 0, IMAGES - 1)) {
             return OUTSIDE;
         }
-        images[k].copyFrom(world);
-        kept[k] = true;
+        World kept = images[k];
+        if (kept == null) {
+            kept = new World();
+            images[k] = kept;
+        }
+        kept.copyFrom(world);
         return 1;
     }
 
@@ -425,10 +425,11 @@ public final class TramGod {
         if (!within(k, 0, IMAGES - 1)) {
             return OUTSIDE;
         }
-        if (!kept[k]) {
+        World kept = images[k];
+        if (kept == null) {
             return STATE;
         }
-        world.copyFrom(images[k]);
+        world.copyFrom(kept);
         return 1;
     }
 
@@ -639,10 +640,6 @@ public final class TramGod {
             }
             closed = 0;
             people = 0;
-            // A person who is gone is still asked for its stop by sights: it has to be one that there is.
-            for (int p = 0; p < MOST_PEOPLE; p++) {
-                at[p] = 0;
-            }
             clearSights();
         }
 
@@ -939,8 +936,7 @@ public final class TramGod {
                 planner.wantGood(world.comeIn(night), world.breaths);
                 planner.spendExactly(world.breaths, nightly, night * TOTALS);
                 for (int left = 0; left <= fund; left++) {
-                    int b = fewestOfBest(night, left);
-                    onward[night * FUNDS + left] = scoreOf(night, left, b);
+                    onward[night * FUNDS + left] = scoreOf(night, left, fewestOfBest(night, left));
                 }
             }
             return onward[fund];
@@ -953,8 +949,11 @@ public final class TramGod {
         private int fewestOfBest(int night, int left) {
             int most = Math.min(world.breaths, left);
             int found = 0;
+            int top = scoreOf(night, left, 0);
             for (int b = 1; b <= most; b++) {
-                if (scoreOf(night, left, b) > scoreOf(night, left, found)) {
+                int score = scoreOf(night, left, b);
+                if (score > top) {
+                    top = score;
                     found = b;
                 }
             }
@@ -974,9 +973,9 @@ public final class TramGod {
     }
 
     /**
-     * The god and the rival by turns. A hold's number is that of its delays, which never fall, in
-     * the combinatorial number system: one breath more gives a higher number, so that going down
-     * through the numbers finds all that follows a hold settled.
+     * The god and the rival by turns. Delays never fall from stop to stop; the rows of them are
+     * numbered in the combinatorial number system, where one breath more gives a higher number:
+     * going down through the numbers finds all that can follow a hold settled.
      */
     private static final class Duel {
         /** An outcome is one number: the god's and the rival's share, each moved to be above 0. */
@@ -989,6 +988,8 @@ public final class TramGod {
         final int[] onGod = new int[MOST_RANKS];
         final int[] onRival = new int[MOST_RANKS];
         final int[] delays = new int[MOST_STOPS];
+        /** The numbers of the holds with one breath more at a stop; NONE where none may be held. */
+        final int[] next = new int[MOST_STOPS];
         int first;
         /** What comes out by the best breath that can be held, and its stop; NONE. */
         private int moveOutcome;
@@ -1008,12 +1009,14 @@ public final class TramGod {
         }
 
         void play() {
+            for (int s = 0; s < world.stops; s++) {
+                delays[s] = world.breaths;
+            }
             int ranks = Math.min(ways(world.breaths + world.stops, world.stops), MOST_RANKS);
             for (int rank = ranks - 1; rank >= 0; rank--) {
-                layDelays(rank);
-                if (isLawful()) {
-                    settle(rank);
-                }
+                findNext(rank);
+                settle(rank);
+                stepDown();
             }
         }
 
@@ -1022,44 +1025,28 @@ public final class TramGod {
             return told ? CHOOSE[of * CHOOSE_COLUMNS + take] : 0;
         }
 
-        private void layDelays(int rank) {
-            int rest = rank;
+        /** The row of delays whose number is one lower. */
+        private void stepDown() {
+            for (int s = 0; s < world.stops; s++) {
+                if (delays[s] > 0) {
+                    int less = delays[s] - 1;
+                    for (int i = 0; i <= s; i++) {
+                        delays[i] = less;
+                    }
+                    return;
+                }
+            }
+        }
+
+        private void findNext(int rank) {
+            boolean full = delays[world.stops - 1] >= world.breaths;
+            int number = rank;
             for (int s = world.stops - 1; s >= 0; s--) {
-                int d = 0;
-                while (d < world.breaths && ways(d + 1 + s, s + 1) <= rest) {
-                    d++;
-                }
-                delays[s] = d;
-                rest -= ways(d + s, s + 1);
+                number += ways(delays[s] + s, s);
+                int here = s == 0 ? delays[0] : delays[s] - delays[s - 1];
+                boolean may = !full && here < world.mayHold(s, world.breaths);
+                next[s] = may && number < MOST_RANKS ? number : NONE;
             }
-        }
-
-        /** The number of the hold on the row with one breath more at a stop. */
-        private int rankWith(int stop) {
-            int rank = 0;
-            for (int s = 0; s < world.stops; s++) {
-                int d = s < stop ? delays[s] : delays[s] + 1;
-                rank += ways(d + s, s + 1);
-            }
-            return rank;
-        }
-
-        private int heldAt(int stop) {
-            return stop == 0 ? delays[0] : delays[stop] - delays[stop - 1];
-        }
-
-        private boolean isLawful() {
-            for (int s = 0; s < world.stops; s++) {
-                if (heldAt(s) > world.mayHold(s, world.breaths)) {
-                    return false;
-                }
-            }
-            return true;
-        }
-
-        private boolean takesMore(int stop) {
-            return delays[world.stops - 1] < world.breaths
-                && heldAt(stop) < world.mayHold(stop, world.breaths);
         }
 
         private void settle(int rank) {
@@ -1092,9 +1079,8 @@ public final class TramGod {
             moveStop = NONE;
             moveOutcome = 0;
             for (int s = 0; s < world.stops; s++) {
-                int next = takesMore(s) ? rankWith(s) : MOST_RANKS;
-                if (next < MOST_RANKS) {
-                    int outcome = forGod ? onRival[next] : onGod[next];
+                if (next[s] >= 0) {
+                    int outcome = forGod ? onRival[next[s]] : onGod[next[s]];
                     if (moveStop == NONE || better(forGod, outcome, moveOutcome)) {
                         moveStop = s;
                         moveOutcome = outcome;

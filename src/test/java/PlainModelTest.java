@@ -763,6 +763,10 @@ public final class PlainModelTest {
             int few = draw(0, 5);
             due(run, "set(0," + few + ")", x.set(0, few), m.set(0, few));
         }
+        if (draw(0, 3) == 0) {
+            int few = draw(1, 2);
+            due(run, "set(1," + few + ")", x.set(1, few), m.set(1, few));
+        }
         for (int i = draw(0, 9); i > 0; i--) person(run, x, m);
         text(run, x, m, m.n(), 2);
         for (int i = 0; i < 60; i++) {

@@ -511,6 +511,12 @@ public final class PromisesTest {
         y.set(1, 9);
         y.set(0, 0);
         game(y, 0, 0, NONE);
+        // One at a stop: what the rival holds at 1 leaves room at 0, so that the god may wait.
+        y.set(0, 2);
+        y.set(1, 1);
+        y.person(0, 1, 11, 0, 0, 5);
+        y.person(1, 0, 6, 3, 0, -1);
+        game(y, 3, 4, NONE);
     }
 
     private static void closing() {
