@@ -279,6 +279,31 @@ public final class EdgesOfBestTest {
         fund(y, 40, 7, -504, 0, 0, 0, 0, 0, 0, 0);
     }
 
+    private static void fundsAtSeveralStops() {
+        Edges.says(0, "the most GOOD in all");
+        // Four breaths at stop 1, of which it may hold two, and stop 0 the others; at stop 0 they do harm.
+        TramGod x = Edges.onLine("50");
+        x.person(0, 1, 9, 9, 0, 0);
+        laws(x, 4, 2);
+        fund(x, 4, 2, 9, 0, 4);
+        fund(x, 3, 2, 0, 0, 0);
+        fund(x, 8, 2, 18, 4, 4);
+        laws(x, 4, 1);
+        fund(x, 8, 2, 0, 0, 0);
+        laws(x, 4, 2);
+        x.person(1, 0, 7, -5, 0, 0);
+        fund(x, 8, 2, 8, 4, 4);
+        laws(x, 4, 4);
+        fund(x, 8, 2, 18, 4, 4);
+        // Six stops, the last of which alone needs nine.
+        TramGod y = Edges.onLine("000000");
+        y.person(0, 5, 9, 1, 0, 0);
+        laws(y, 9, 2);
+        fund(y, 40, 7, 4, 0, 0, 0, 9, 9, 9, 9);
+        laws(y, 9, 1);
+        fund(y, 40, 7, 0, 0, 0, 0, 0, 0, 0, 0);
+    }
+
     private static void comingInNights() {
         Edges.says(0, "PEOPLE come in nights as told (bits of nights, all at first); who does not come counts for nothing then");
         TramGod x = Edges.onLine("5");
@@ -305,6 +330,15 @@ public final class EdgesOfBestTest {
         fund(x, 4, 3, 18, 0, 2, 2);
         fund(x, 5, 3, 18, 0, 2, 2);
         fund(x, 6, 3, 27, 2, 2, 2);
+        // The first night is worth more: what it spends, the second has not.
+        TramGod z = needs(2);
+        z.nights(0, 1);
+        z.person(1, 0, 7, 3, 0, 0);
+        z.nights(1, 2);
+        fund(z, 1, 2, 0, 0, 0);
+        fund(z, 2, 2, 9, 2, 0);
+        fund(z, 3, 2, 9, 2, 0);
+        fund(z, 4, 2, 12, 2, 2);
         // One breath is 1 of good, two are 2: as good in one night as in two, so the last ones spend it.
         TramGod y = Edges.onLine("5");
         y.person(0, 0, 6, 1, 0, 0);
@@ -359,6 +393,34 @@ public final class EdgesOfBestTest {
             game(x, 0, 0, NONE);
         }
         game(breaths(needs(6), 5), 0, 0, NONE);
+    }
+
+    private static void theLargestGame() {
+        Edges.says(21, "FULL: BREATHS are more than 5.");
+        // Six stops, five breaths, all of which the last stop needs; the rival does not care.
+        TramGod x = Edges.onLine("000000");
+        x.person(0, 5, 5, 9, 0, 0);
+        game(breaths(x, 5), 9, 0, 0);
+        game(breaths(x, 4), 0, 0, NONE);
+        laws(x, 5, 1);
+        game(x, 9, 0, 0);
+        x.close(0, true);
+        game(x, 9, 0, 1);
+        x.close(1, true);
+        game(x, 0, 0, NONE);
+        laws(x, 5, 2);
+        game(x, 9, 0, 2);
+        // At stop 3 one breath is too much: the god must hold all five at 4 and 5, two at most at each.
+        x.person(1, 3, 1, -9, 0, 0);
+        game(x, 0, 0, NONE);
+        laws(x, 5, 3);
+        game(x, 9, 0, 4);
+        x.close(4, true);
+        game(x, 0, 0, NONE);
+        laws(x, 5, 5);
+        game(x, 9, 0, 5);
+        laws(x, 5, 4);
+        game(x, 0, 0, NONE);
     }
 
     private static void nothingCanBeHeld() {
@@ -421,10 +483,12 @@ public final class EdgesOfBestTest {
         whoBars();
         fundRefused();
         smallAndLargeFunds();
+        fundsAtSeveralStops();
         comingInNights();
         fewestInTheFirstNight();
         rivalRefused();
         notPassed();
+        theLargestGame();
         nothingCanBeHeld();
         passingFirst();
         Edges.end(16, 21);

@@ -197,6 +197,38 @@ public final class EdgesOfSightsTest {
         held(x, 0, NONE);
     }
 
+    private static void whatIsSure() {
+        Edges.says(25, "the least (0), the greatest (1) at a STOP");
+        TramGod x = Edges.onLine("555");
+        x.person(0, 0, 6, 0, 0, 0);
+        x.person(1, 1, 12, 0, 0, 0);
+        x.person(2, 2, 18, 0, 0, 0);
+        x.person(3, 2, 19, 0, 0, 0);
+        x.seen(2, 1);
+        // Three or four breaths in all: 10 and 15 holds.
+        held(x, 25, 3);
+        for (int s = 0; s < 3; s++) atStop(x, s, 0, 4);
+        x.seen(3, 0);
+        held(x, 10, 3);
+        for (int s = 0; s < 3; s++) atStop(x, s, 0, 3);
+        // Behind a call that asks for the fewest in all the least at each stop is asked for by itself.
+        Edges.due("meant(4, 0, -1)", x.meant(4, 0, -1), 3);
+        for (int s = 2; s >= 0; s--) Edges.due("held(" + s + ", 0)", x.held(s, 0), 0);
+        x.seen(1, 0);
+        held(x, 3, 3);
+        atStop(x, 0, 0, 1);
+        atStop(x, 1, 0, 1);
+        atStop(x, 2, 2, 3);
+        x.seen(0, 1);
+        held(x, 1, 3);
+        atStop(x, 0, 1, 1);
+        atStop(x, 1, 0, 0);
+        atStop(x, 2, 2, 2);
+        x.set(1, 1);
+        held(x, 0, NONE);
+        for (int s = 0; s < 3; s++) atStop(x, s, NONE, NONE);
+    }
+
     // ---- 26 runs
 
     private static void runsRefused() {
@@ -456,6 +488,61 @@ public final class EdgesOfSightsTest {
         return x;
     }
 
+    /** All that an image keeps is changed, one thing after the other, each to what it was not. */
+    private static void spoil(TramGod x) {
+        Edges.text(x, "123456").line();
+        x.set(0, 9);
+        x.set(1, 1);
+        x.close(0, true);
+        x.close(5, true);
+        for (int p = 0; p < 8; p++) {
+            x.person(p, 4, 90 + p, -7, -8, -9);
+            x.nights(p, 96);
+            x.seen(p, p < 4 ? 0 : 1);
+        }
+    }
+
+    private static TramGod spoiltAndRestored(int k) {
+        TramGod x = Edges.rich();
+        x.image(k);
+        spoil(x);
+        x.restore(k);
+        return Edges.text(x, "0021");
+    }
+
+    private static TramGod richKeptIn(int k) {
+        TramGod x = Edges.rich();
+        x.image(k);
+        return x;
+    }
+
+    private static void allIsAsItWas() {
+        Edges.says(30, "All but the PAD is kept in an IMAGE (0, 1): 1.");
+        for (int k = 0; k < 2; k++) Edges.same("restore(" + k + ")", spoiltAndRestored(k), richKeptIn(k));
+        TramGod x = Edges.four();
+        x.image(0);
+        spoil(x);
+        x.image(1);
+        Edges.due("restore(0)", x.restore(0), 1);
+        Edges.same("restore(0) of one", Edges.text(x, "000"), fourAndSpoilt());
+    }
+
+    /** Four, never spoilt; image 1 is what spoiling makes of it. */
+    private static TramGod fourAndSpoilt() {
+        TramGod x = new TramGod();
+        spoil(x);
+        x.image(1);
+        Edges.text(x, "555").line();
+        x.set(0, 4);
+        x.set(1, 9);
+        x.person(0, 0, 7, 4, -1, 2);
+        x.person(1, 1, 11, -5, 3, 6);
+        x.person(2, 2, 15, 2, 0, -4);
+        x.person(3, 2, 17, 9, -9, 1);
+        x.image(0);
+        return Edges.text(x, "000");
+    }
+
     private static void asItWas() {
         Edges.says(31, "It is as it was when it was kept: 1.");
         TramGod x = Edges.rich();
@@ -540,6 +627,7 @@ public final class EdgesOfSightsTest {
         heldRefused();
         holdsThatCanBe();
         noneFit();
+        whatIsSure();
         runsRefused();
         sureAndNever();
         meanRefused();
@@ -552,6 +640,7 @@ public final class EdgesOfSightsTest {
         leftOver();
         laterBySeconds();
         imageRefused();
+        allIsAsItWas();
         asItWas();
         toldRefused();
         Edges.end(22, 32);

@@ -1,16 +1,20 @@
 import java.io.IOException;
 import java.lang.reflect.Constructor;
 import java.lang.reflect.Field;
+import java.lang.reflect.InvocationTargetException;
 import java.lang.reflect.Method;
 import java.lang.reflect.Modifier;
 import java.nio.file.Files;
 import java.nio.file.Path;
+import java.util.Arrays;
+import java.util.Comparator;
+import java.util.Random;
 import java.util.Set;
 import java.util.TreeSet;
 import java.util.regex.Matcher;
 import java.util.regex.Pattern;
 
-/** The public face, what LANGUAGE.md rules out and can be read off the source, and the room that calls take. */
+/** The public face, what LANGUAGE.md rules out and can be read off the source, the room that calls take, any arguments. */
 public final class FaceTest {
     private static final String[] METHODS = {
         "int say(int)", "int wipe()", "int fault(int)", "int line()", "int close(int,boolean)",
@@ -157,10 +161,49 @@ public final class FaceTest {
         x.forget();
     }
 
+    /** Rule 7: no call throws or fails to end, for any arguments in any state; an object may be asked on and on. */
+    private static void anyArguments() throws IllegalAccessException {
+        Random draw = new Random(6);
+        Method[] methods = TramGod.class.getDeclaredMethods();
+        Arrays.sort(methods, Comparator.comparing(Method::toString));
+        for (int run = 0; run < 200; run++) {
+            TramGod x = new TramGod();
+            for (int call = 0; call < 1500; call++) {
+                Method m = methods[draw.nextInt(methods.length)];
+                if (Modifier.isPublic(m.getModifiers())) callOnce(x, m, draw);
+            }
+        }
+    }
+
+    private static void callOnce(TramGod x, Method m, Random draw) throws IllegalAccessException {
+        Object[] arguments = new Object[m.getParameterCount()];
+        for (int i = 0; i < arguments.length; i++) {
+            boolean flag = m.getParameterTypes()[i] == boolean.class;
+            arguments[i] = flag ? (Object) draw.nextBoolean() : (Object) anyNumber(m.getName(), draw);
+        }
+        try {
+            m.invoke(x, arguments);
+        } catch (InvocationTargetException e) {
+            look(false, m.getName() + Arrays.toString(arguments) + " threw " + e.getCause());
+        }
+    }
+
+    private static int anyNumber(String name, Random draw) {
+        switch (draw.nextInt(16)) {
+            case 0: return draw.nextInt();
+            case 1: return Integer.MIN_VALUE + draw.nextInt(3);
+            case 2: return Integer.MAX_VALUE - draw.nextInt(3);
+            case 3: return 1 << draw.nextInt(32);
+            case 4: return draw.nextInt(300) - 100;
+            default: return name.equals("say") ? '0' + draw.nextInt(3) : draw.nextInt(11) - 1;
+        }
+    }
+
     public static void main(String[] args) throws IOException, IllegalAccessException {
         face();
         source();
         room();
+        anyArguments();
         System.out.println(wrong == 0 ? "the face is as told" : wrong + " things are not as told");
         if (wrong != 0) System.exit(1);
     }
