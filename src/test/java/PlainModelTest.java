@@ -778,9 +778,49 @@ public final class PlainModelTest {
         tellAll(run, x, m);
     }
 
+    /** The rival's game by all numbers of stops and breaths: so many of each, nearly all people within reach. */
+    private static void games(int many) {
+        for (int n = 1; n <= 6; n++) {
+            for (int breaths = 0; breaths <= 5; breaths++) {
+                for (int i = 0; i < many; i++) oneGame(n, breaths, i);
+            }
+        }
+    }
+
+    private static void oneGame(int n, int breaths, int number) {
+        StringBuilder run = new StringBuilder("game " + number + " of " + n + " stops, " + breaths + " breaths:\n");
+        TramGod x = new TramGod();
+        Model m = new Model();
+        text(run, x, m, n, 9);
+        due(run, "line()", x.line(), m.line());
+        due(run, "set(0," + breaths + ")", x.set(0, breaths), m.set(0, breaths));
+        if (draw(0, 2) == 0) {
+            int each = draw(0, 3);
+            due(run, "set(1," + each + ")", x.set(1, each), m.set(1, each));
+        }
+        if (draw(0, 3) == 0) {
+            int s = draw(0, m.n() - 1);
+            due(run, "close(" + s + ",true)", x.close(s, true), m.close(s, true));
+        }
+        for (int p = draw(2, 7); p >= 0; p--) runner(run, x, m, p);
+        for (int what = 0; what < 3; what++) due(run, "rival(" + what + ")", x.rival(what), m.rival(what));
+    }
+
+    /** A person who needs from none to one breath more than there are. */
+    private static void runner(StringBuilder run, TramGod x, Model m, int p) {
+        int s = draw(0, m.n() - 1);
+        int c = m.leavesAt(s, new int[m.n()], m.w.closed) + draw(0, m.w.breaths + 1);
+        int a = draw(-9, 9);
+        int b = draw(-9, 9);
+        int o = draw(-9, 9);
+        due(run, "person(" + p + "," + s + "," + c + "," + a + "," + b + "," + o + ")",
+            x.person(p, s, c, a, b, o), m.person(p, s, c, a, b, o));
+    }
+
     public static void main(String[] args) {
         int runs = args.length > 0 ? Integer.parseInt(args[0]) : 1500;
         for (int i = 0; i < runs; i++) oneRun(i);
+        games(Math.max(1, runs / 50));
         System.out.println(checks + " answers looked at, " + wrong + " not as due");
         if (wrong != 0) System.exit(1);
     }
