@@ -31,6 +31,9 @@ public final class FaceTest {
         "\\bthrow\\b", "\\btry\\b", "\\bcatch\\b", "\\bfinally\\b", "\\bsynchronized\\b", "\\bassert\\b", "->", "::",
         "Exact\\b", "\\bimport\\b", "\\bpackage\\b", "\\bprotected\\b", "static\\s*\\{", "@Override", "\\bSystem\\.(?!arraycopy)"};
 
+    /** What the class uses of rule 4's library; another function of it is added here when it is used. */
+    private static final Set<String> LIBRARY = Set.of("Integer.bitCount", "Math.abs", "Math.max", "Math.min", "System.arraycopy");
+
     private static int wrong = 0;
 
     private static void look(boolean right, String what) {
@@ -49,14 +52,19 @@ public final class FaceTest {
     private static void face() throws IllegalAccessException {
         Set<String> shown = new TreeSet<>();
         Set<String> names = new TreeSet<>();
+        Set<String> hidden = new TreeSet<>();
         for (Method m : TramGod.class.getDeclaredMethods()) {
             if (Modifier.isPublic(m.getModifiers())) {
                 shown.add(m.getReturnType().getName() + " " + m.getName() + "(" + parameters(m.getParameterTypes()) + ")");
                 names.add(m.getName());
             } else {
                 look(Modifier.isPrivate(m.getModifiers()), "not private: " + m);
+                look(m.getParameterCount() <= 7, "too many parameters: " + m);
+                hidden.add(m.getName());
             }
         }
+        hidden.retainAll(names);
+        look(hidden.isEmpty(), "private ones bear a public one's name: " + hidden);
         look(shown.equals(new TreeSet<>(Set.of(METHODS))), "the public methods are " + shown);
         Set<String> constants = new TreeSet<>();
         for (Field f : TramGod.class.getDeclaredFields()) {
@@ -65,6 +73,7 @@ public final class FaceTest {
                 constants.add(f.getType().getName() + " " + f.getName() + "=" + f.get(null));
             } else {
                 look(Modifier.isPrivate(f.getModifiers()), "not private: " + f);
+                look(!Modifier.isStatic(f.getModifiers()) || Modifier.isFinal(f.getModifiers()), "static state: " + f);
             }
         }
         look(constants.equals(new TreeSet<>(Set.of(CONSTANTS))), "the constants are " + constants);
@@ -72,6 +81,24 @@ public final class FaceTest {
         look(made.length == 1 && Modifier.isPublic(made[0].getModifiers()) && made[0].getParameterCount() == 0, "the constructor");
         look(Modifier.isFinal(TramGod.class.getModifiers()), "the class is not final");
         inside(names);
+    }
+
+    /** The face that the document prints is the one that is looked for. */
+    private static void printedFace() throws IOException {
+        Matcher block = Pattern.compile("(?s)```java\n(.*?)```").matcher(Files.readString(Path.of("../shared/DOC.md")));
+        String printed = block.find() ? block.group(1) : "";
+        Set<String> methods = new TreeSet<>();
+        Matcher m = Pattern.compile("public (int|long) (\\w+)\\(([^)]*)\\);").matcher(printed);
+        while (m.find()) {
+            methods.add(m.group(1) + " " + m.group(2) + "(" + m.group(3).replaceAll(" \\w+(?=,|$)", "").replace(" ", "") + ")");
+        }
+        look(methods.equals(new TreeSet<>(Set.of(METHODS))), "the document prints " + methods);
+        Set<String> constants = new TreeSet<>();
+        m = Pattern.compile("public static final (int|long) ([^;]*);").matcher(printed);
+        while (m.find()) {
+            for (String one : m.group(2).split(",")) constants.add(m.group(1) + " " + one.replace(" ", "").replaceAll("(?<=\\d)L$", ""));
+        }
+        look(constants.equals(new TreeSet<>(Set.of(CONSTANTS))), "the document prints " + constants);
     }
 
     private static void inside(Set<String> names) {
@@ -99,6 +126,8 @@ public final class FaceTest {
             Matcher m = Pattern.compile(out).matcher(code);
             look(!m.find(), "ruled out: " + out);
         }
+        Matcher library = Pattern.compile("\\b([A-Z][A-Za-z]*\\.\\w+)").matcher(code);
+        while (library.find()) look(LIBRARY.contains(library.group(1)), "not of the library that is used: " + library.group(1));
         look(text.chars().allMatch(c -> c < 128), "a sign above 127");
         int from = 0;
         String[] lines = text.split("\n");
@@ -201,6 +230,7 @@ public final class FaceTest {
 
     public static void main(String[] args) throws IOException, IllegalAccessException {
         face();
+        printedFace();
         source();
         room();
         anyArguments();
